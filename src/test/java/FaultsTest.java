@@ -31,6 +31,7 @@ public final class FaultsTest {
         good(0, "");
         good(0, " \n ");
         good(1, "fuel 7;");
+        good(3, "fuel 0;load 0;wind 0;");
         good(1, "\nfuel\n\n7\n;\n");
         good(2, "fuel 0999;load 0000;");
         good(3, "child abcdef clay 99 grit 9;kiln a room 6;child ifs clay 0 grit 0;");
@@ -68,6 +69,10 @@ public final class FaultsTest {
         bad(1, 14, "temper min(1,2,3);");
         bad(1, 12, "temper if (1,2,3);");
         bad(1, 11, "temper min 1;");
+        bad(1, 10, "temper min;");
+        bad(1, 5, "fuel ;");
+        bad(1, 13, "child a clay grit 1;");
+        bad(1, 12, "kiln a room ;");
         bad(1, 7, "temper all;");
         bad(1, 7, "temper [1];");
         bad(1, 11, "cracks all all;");
@@ -92,6 +97,8 @@ public final class FaultsTest {
         bad(1, 8, "child a room 1;");
         bad(1, 5, "kiln max room 1;");
         bad(1, 6, "child child clay 1 grit 1;");
+        bad(1, 6, "child clay 1 grit 1;");
+        bad(1, 5, "kiln room 1;");
         // A blank is needed between a word and a number, and only there.
         bad(1, 4, "fuel7;");
         bad(1, 4, "fuel1000;");

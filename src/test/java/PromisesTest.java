@@ -139,6 +139,20 @@ public final class PromisesTest {
         due("4 fuel", 2, x.has(3));
         due("4 load", 5, x.fuel(1));
         due("4 wind", 0, x.chance(40));
+        Check.town(x, "load 7;wind 100;temper 5;cracks all;sticks all;burns 3;");
+        Check.town(x, "fuel 0;child a clay 1 grit 1;child b clay 1 grit 1;kiln k room 2;");
+        due("4 no load of an earlier town", 0, x.fuel(1));
+        due("4 no wind", 0, x.chance(40));
+        due("4 no temper", 8, x.rings(0, 2, 0));
+        due("4 no cracks", 0, x.cracks(0, 2, 0));
+        x.set(0, 0, 0);
+        x.set(1, 0, 1);
+        due("4 no sticks", 20, x.safe(0));
+        due("15 of this town", 160, x.best(0, 1));
+        x.light(0, 2);
+        due("4 no burns", 2, x.kiln(0, 3));
+        Check.town(x, "child a clay 1 grit 1;kiln k room 2;");
+        due("15 of another town", -1, x.best(0, 1));
     }
 
     private static void faultAsked() {
@@ -379,6 +393,29 @@ public final class PromisesTest {
         due("14 not next to one another", 20, y.safe(0));
         y.weeks(1);
         due("14 by the week", 3, y.safe(0));
+        KilnBench z = Check.made(PLAIN + "cracks heat>0;");
+        z.set(0, 0, 0);
+        due("14 the least heat", 0, z.safe(0));
+        Check.town(z, PLAIN + "sticks heat>9-week and near<1;");
+        z.set(0, 0, 0);
+        z.set(1, 0, 1);
+        due("14 sticks by the heat", 9, z.safe(0));
+        z.weeks(2);
+        due("14 sticks by the week", 7, z.safe(0));
+        z.light(0, 7);
+        z.weeks(1);
+        due("16 apart by the heat", 1, z.brothers(0));
+        z.undo();
+        z.weeks(1);
+        z.light(0, 8);
+        z.weeks(1);
+        due("16 none is fired twice", 1, z.brothers(0));
+        z.undo();
+        z.undo();
+        z.undo();
+        z.light(0, 8);
+        z.weeks(1);
+        due("16 stuck by the heat", 3, z.brothers(0));
     }
 
     private static void bestDue(String what, KilnBench x, int kiln, int... want) {
@@ -421,6 +458,18 @@ public final class PromisesTest {
         w.set(0, 0, 0);
         w.set(1, 0, 1);
         bestDue("15 apart", w, 0, 0, 28, 0, -1, 1, -1);
+        int[] image = Check.image(w);
+        image[11] = 255;
+        image[12] = 255;
+        due("15 an image with one of them", 1, Check.on(w, Check.sealed(image)));
+        bestDue("15 of that image", w, 0, 0, 7, -1, -1, 0, -1);
+        KilnBench v = Check.made("child a clay 1 grit 1;child b clay 9 grit 2;child c clay 5 grit 4;kiln k room 4;"
+            + "temper 9+clay*place;cracks clay=9 and place=3;sticks grits=5 or near>20;");
+        v.set(0, 0, 0);
+        v.set(1, 0, 1);
+        v.set(2, 0, 2);
+        // b rings 9, 18, 27 at 0, 1, 2, and may not be next to one that rings by 21 less, nor a next to c.
+        bestDue("15 four places", v, 0, 0, 10 + 27 + 24, -1, 0, 1, 2, -1);
     }
 
     private static void brothers() {
@@ -620,7 +669,9 @@ public final class PromisesTest {
         due("22 by sixteen", 15, x.seen() & 15);
         due("21 none left", 1, Check.see(x, 0, 0, 99));
         due("22 none left", 0, x.seen());
-        due("23 none left", -1, x.tells(0));
+        for (int what = 0; what < 3; what++) {
+            due("23 none left " + what, -1, x.tells(what));
+        }
         Check.see(x, 0, 0, 10);
         x.weeks(1);
         due("22 by the week of now", 0, x.seen());
@@ -656,6 +707,11 @@ public final class PromisesTest {
         tellsDue("23 of now", z, 1, 0, 1);
         z.weeks(2);
         tellsDue("23 by the week", z, 0, 0, 1);
+        Check.see(z, 0, 0, 99);
+        tellsDue("23 none left then", z, -1, -1, -1);
+        Check.town(z, "");
+        tellsDue("23 no children then", z, -1, -1, -1);
+        tellsDue("23 the greatest temper", Check.made("child a clay 1 grit 1;temper 99-heat/2;"), 0, 0, 2);
     }
 
     // ---- promises 24 and 25
@@ -944,6 +1000,22 @@ public final class PromisesTest {
         }
         imageDue("32 later", x, 1, 65, 5, 52, 1, 255, 255, 40, 0, 2, 1, 255, 255, 40, 1, 1, 0, 1, 4, 255, 0, 0,
             255, 255, 0);
+        StringBuilder text = new StringBuilder("kiln k room 6;kiln l room 6;kiln m room 6;");
+        for (int c = 0; c < 8; c++) {
+            text.append("child ").append((char) ('p' + c)).append(" clay 1 grit 1;");
+        }
+        KilnBench y = Check.made(text.toString());
+        y.set(7, 2, 5);
+        y.light(2, 0);
+        int[] longest = new int[56];
+        for (int c = 0; c < 8; c++) {
+            java.util.Arrays.fill(longest, 5 + 6 * c, 8 + 6 * c, 255);
+        }
+        java.util.Arrays.fill(longest, 52, 54, 255);
+        longest[47] = 2;
+        longest[48] = 5;
+        imageDue("32 the longest", y, longest);
+        due("34 the longest", 1, Check.on(y, longest));
         Check.town(x, "fuel 1;");
         due("33 the latest one stays", 65, x.octet(1));
         imageDue("32 of an empty town", x, 0, 0, 0, 1, 0);
