@@ -63,7 +63,7 @@ public final class KilnBench {
 
     public int feed(int a, int b, int c, int d, int e) {
         if (tapeLength + 20 > TAPE_MOST) {
-            return refuse(BY_TAPE);
+            return refuseWithNone(BY_TAPE);
         }
         putWord(a);
         putWord(b);
@@ -75,7 +75,7 @@ public final class KilnBench {
 
     public boolean end(int n) {
         if (n < 0 || n > tapeLength) {
-            return refuseFlatly(BY_TAPE);
+            return refuseWithFalse(BY_TAPE);
         }
         tapeLength = n;
         return true;
@@ -87,7 +87,7 @@ public final class KilnBench {
         faultKind = parser.faultKind();
         faultPlace = parser.faultPlace();
         if (!good) {
-            return refuse(BY_TOWN);
+            return refuseWithNone(BY_TOWN);
         }
         Town last = town;
         town = spare;
@@ -280,7 +280,7 @@ public final class KilnBench {
     public int see() {
         int length = tapeLength;
         tapeLength = 0;
-        return sight.read(tape, length, town.children) ? sight.count : refuse(BY_TELLING);
+        return sight.read(tape, length, town.children) ? sight.count : refuseWithNone(BY_TELLING);
     }
 
     public int seen() {
@@ -302,7 +302,7 @@ public final class KilnBench {
 
     public int weeks(int n) {
         if (!canPass(n)) {
-            return refuse(BY_WEEKS);
+            return refuseWithNone(BY_WEEKS);
         }
         beginAct();
         int firings = 0;
@@ -314,7 +314,7 @@ public final class KilnBench {
 
     public int chance(int n) {
         if (!canPass(n)) {
-            return refuse(BY_WEEKS);
+            return refuseWithNone(BY_WEEKS);
         }
         beginAct();
         int gusts = 0;
@@ -332,7 +332,7 @@ public final class KilnBench {
         boolean can = isChild(child) && isPlaceOf(kiln, place)
             && !now.isFired(child) && now.whoIsIn(kiln, place) == NONE;
         if (!can) {
-            return refuseFlatly(BY_BENCH);
+            return refuseWithFalse(BY_BENCH);
         }
         beginAct();
         now.kilnOf[child] = kiln;
@@ -342,7 +342,7 @@ public final class KilnBench {
 
     public boolean take(int child) {
         if (!isChild(child) || now.kilnOf[child] == NONE) {
-            return refuseFlatly(BY_BENCH);
+            return refuseWithFalse(BY_BENCH);
         }
         beginAct();
         now.takeOut(child);
@@ -352,7 +352,7 @@ public final class KilnBench {
     public boolean light(int kiln, int heat) {
         boolean can = isKiln(kiln) && (isHeat(heat) || heat == NONE) && now.lit[kiln] != heat;
         if (!can) {
-            return refuseFlatly(BY_BENCH);
+            return refuseWithFalse(BY_BENCH);
         }
         beginAct();
         now.lit[kiln] = heat;
@@ -361,7 +361,7 @@ public final class KilnBench {
 
     public boolean undo() {
         if (!history.giveBack(now)) {
-            return refuseFlatly(BY_UNDO);
+            return refuseWithFalse(BY_UNDO);
         }
         search.forget();
         return true;
@@ -369,7 +369,7 @@ public final class KilnBench {
 
     public boolean seed(int seed) {
         if (seed < 0) {
-            return refuseFlatly(BY_TELLING);
+            return refuseWithFalse(BY_TELLING);
         }
         draws = seed;
         return true;
@@ -398,7 +398,7 @@ public final class KilnBench {
         tapeLength = 0;
         // The image is read beside what stands, for a refusal must leave all as it is.
         if (!picture.read(tape, length, town, ahead)) {
-            return refuseFlatly(BY_TELLING);
+            return refuseWithFalse(BY_TELLING);
         }
         now.copyFrom(ahead);
         history.count = 0;
@@ -412,12 +412,12 @@ public final class KilnBench {
 
     // ---- helpers of the face
 
-    private int refuse(int what) {
+    private int refuseWithNone(int what) {
         refused[what]++;
         return NONE;
     }
 
-    private boolean refuseFlatly(int what) {
+    private boolean refuseWithFalse(int what) {
         refused[what]++;
         return false;
     }
