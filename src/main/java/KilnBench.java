@@ -580,10 +580,7 @@ public final class KilnBench {
                 return;
             }
             int last = token;
-            at = behind;
-            while (at < length && isBlank(text[at])) {
-                at++;
-            }
+            at = upcoming();
             boolean joined = at == behind;
             if (at >= length) {
                 token = Token.END;
@@ -595,6 +592,19 @@ public final class KilnBench {
                 token = text[at] & 255;
                 behind = at + 1;
             }
+        }
+
+        /** Where that begins which comes next: the text's length, if nothing does. */
+        int upcoming() {
+            int k = behind;
+            while (k < length && isBlank(text[k])) {
+                k++;
+            }
+            return k;
+        }
+
+        boolean isAtEnd() {
+            return upcoming() >= length;
         }
 
         private void readWord(boolean lacksBlank) {
@@ -779,8 +789,7 @@ public final class KilnBench {
             town.clear();
             open = 0;
             reader.start(text, length);
-            // One round more than there may be statements, so that the one too many is told.
-            for (int k = 0; k <= STATEMENTS_MOST && reader.token != Token.END && reader.fault == 0; k++) {
+            for (int k = 0; k < STATEMENTS_MOST && reader.token != Token.END && reader.fault == 0; k++) {
                 readStatement();
             }
             return reader.fault == 0;
@@ -805,7 +814,7 @@ public final class KilnBench {
                 reader.fail(WRONG_BYTE, reader.at);
                 return;
             }
-            if (town.statements >= STATEMENTS_MOST || town.hasNoMoreOf(kind)) {
+            if (town.hasNoMoreOf(kind)) {
                 reader.fail(TOO_MANY, reader.at);
                 return;
             }
@@ -818,8 +827,20 @@ public final class KilnBench {
                 case Token.WIND: town.wind = number(0, 100); break;
                 default: readFormula(kind); break;
             }
-            expect(';');
+            endStatement();
+        }
+
+        /** Behind the last that may be there, one too many is told before it is cut into words. */
+        private void endStatement() {
+            if (reader.token != ';') {
+                reader.fail(WRONG_BYTE, reader.at);
+                return;
+            }
             town.statements++;
+            if (town.statements >= STATEMENTS_MOST && !reader.isAtEnd()) {
+                reader.fail(TOO_MANY, reader.upcoming());
+            }
+            reader.next();
         }
 
         private void readChild() {

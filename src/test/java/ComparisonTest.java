@@ -97,7 +97,7 @@ public final class ComparisonTest {
         if (!oneIn(5)) {
             all.add("wind " + upTo(100));
         }
-        for (int k = oneIn(10) ? 60 : 0; k > 0; k--) {
+        for (int k = oneIn(10) ? 60 + upTo(20) : 0; k > 0; k--) {
             all.add(pick(List.of("fuel ", "load ", "wind ")) + upTo(99));
         }
         if (oneIn(2)) {

@@ -191,7 +191,12 @@ public final class FaultsTest {
         bad(6, 562, "fuel 1;".repeat(80) + " \nchild");
         bad(6, 560, "fuel 1;".repeat(80) + "temper");
         good(80, "fuel 1;".repeat(80) + "\n\n");
-        bad(1, 560, "fuel 1;".repeat(80) + "wood 1;");
+        // The 81st is one too many whatever it is.
+        bad(6, 560, "fuel 1;".repeat(80) + "wood 1;");
+        bad(6, 560, "fuel 1;".repeat(80) + "abcdefgh 1;");
+        bad(6, 561, "fuel 1;".repeat(80) + "\n;");
+        bad(6, 560, "fuel 1;".repeat(80) + "12345");
+        bad(1, 559, "fuel 1;".repeat(79) + "fuel 1,");
     }
 
     private static void firstAlongTheText() {

@@ -127,7 +127,7 @@ final class PlainTown {
                 }
                 if (k > 0 && (letter && Character.isDigit(text.charAt(k - 1))
                     || digit && text.charAt(k - 1) >= 'a' && text.charAt(k - 1) <= 'z')) {
-                    tokens.add(new Token('x', "", k));
+                    tokens.add(new Token('x', "" + k, k));
                     stop = true;
                     continue;
                 }
@@ -138,7 +138,7 @@ final class PlainTown {
                 }
                 int most = letter ? 6 : 4;
                 if (e - k > most) {
-                    tokens.add(new Token('x', "", k + most));
+                    tokens.add(new Token('x', "" + k, k + most));
                     stop = true;
                 } else {
                     String word = text.substring(k, e);
@@ -170,6 +170,9 @@ final class PlainTown {
 
         Plan town() {
             while (peek().sort != 'e') {
+                if (plan.statements == 80) {
+                    throw new Fault(6, peek().sort == 'x' ? Integer.parseInt(peek().text) : peek().at);
+                }
                 statement();
                 eat(";");
                 plan.statements++;
@@ -189,7 +192,7 @@ final class PlainTown {
                 || t.text.equals("cracks") && plan.cracks != null
                 || t.text.equals("sticks") && plan.sticks != null
                 || t.text.equals("burns") && plan.burns != null;
-            if (again || plan.statements == 80) {
+            if (again) {
                 throw new Fault(6, t.at);
             }
             p++;
