@@ -33,7 +33,8 @@ public final class BoundariesOfTextTest {
         townWithAFault();
         townWithoutAFault();
         fault();
-        Sentence.finish("BoundariesOfTextTest", 2, 5);
+        Sentence.haveBeen(2, 5);
+        Sentence.finish("BoundariesOfTextTest");
     }
 
     private static void due(String what, long want, long got) {

@@ -30,7 +30,8 @@ public final class BoundariesOfWeeksTest {
         undo();
         seed();
         kept();
-        Sentence.finish("BoundariesOfWeeksTest", 24, 31);
+        Sentence.haveBeen(24, 31);
+        Sentence.finish("BoundariesOfWeeksTest");
     }
 
     private static void due(String what, long want, long got) {
