@@ -18,6 +18,7 @@ public final class BoundariesOfAnswersTest {
         weekOfNow();
         safe();
         best();
+        bestThatIsSafe();
         bestOfLikeOnes();
         brothers();
         ahead();
@@ -396,6 +397,27 @@ public final class BoundariesOfAnswersTest {
             due("kiln " + other, NONE, y.best(other, 0));
         }
         due("none at first", NONE, new KilnBench().best(0, 0));
+    }
+
+    private static void bestThatIsSafe() {
+        Sentence.ofTerms("BEST is a heat, and a row of the CHILDREN in a KILN, or none, for each of its PLACES, by which none CRACKS, none STICK:");
+        KilnBench x = Check.made(town(3, "temper heat;cracks heat>10 and place<5 or heat>15;"));
+        x.set(0, 0, 0);
+        bestDue("the one place where it is whole", x, 0, 15, 15, NONE, NONE, NONE, NONE, NONE, 0);
+        x.set(1, 0, 1);
+        bestDue("a second one has to have its place too", x, 0, 10, 20, NONE, NONE, NONE, NONE, 0, 1);
+        Check.town(x, town(3, "temper heat;sticks heat>3;"));
+        x.set(0, 1, 0);
+        x.set(1, 1, 1);
+        bestDue("until they stick", x, 1, 3, 6, 0, 1);
+        x.set(1, 0, 0);
+        x.set(0, 0, 1);
+        bestDue("none sticks apart", x, 0, 20, 40, NONE, NONE, NONE, 0, NONE, 1);
+        Check.town(x, town(3, "temper heat+place;sticks near=1 and heat>0 or near=2;"));
+        x.set(0, 0, 0);
+        x.set(1, 0, 1);
+        x.set(2, 0, 2);
+        bestDue("two apart, and one place between is enough", x, 0, 20, 60 + 1 + 3 + 5, NONE, 0, NONE, 1, NONE, 2);
     }
 
     private static void bestOfLikeOnes() {

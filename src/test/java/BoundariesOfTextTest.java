@@ -11,6 +11,9 @@ public final class BoundariesOfTextTest {
         oneEach();
         stores();
         wordsOfEachSum();
+        whatTheWordsTell();
+        sumsAndProducts();
+        bothAndOr();
         choices();
         comparisons();
         fractions();
@@ -198,6 +201,86 @@ public final class BoundariesOfTextTest {
             }
             bad(1, kinds[k].length() + 1, kinds[k] + " nobody" + (isTest ? "=1;" : ";"));
         }
+    }
+
+    private static void whatTheWordsTell() {
+        Sentence.ofTerms("(The heat; the WEEK; of a CHILD its clay, its grit, its PLACE, the temper with which it comes out;");
+        KilnBench x = Check.made("child a clay 0 grit 0;child b clay 99 grit 9;temper clay+grit+place+heat-28-week;cracks rings=99 or rings=8 and clay>9;");
+        due("the greatest of each", 99, x.rings(1, 14, 5));
+        due("one less", 98, x.rings(1, 14, 4));
+        due("the least of each", 0, x.rings(0, 0, 0));
+        due("cracks by 99", 1, x.cracks(1, 20, 5));
+        due("not by 98", 0, x.cracks(1, 14, 4));
+        Check.town(x, "child a clay 1 grit 1;temper week-900;");
+        due("week 0", 0, x.rings(0, 0, 0));
+        for (int k = 0; k < 24; k++) {
+            x.weeks(40);
+        }
+        due("week 960", 60, x.rings(0, 0, 0));
+        x.weeks(39);
+        due("week 999", 99, x.rings(0, 0, 0));
+    }
+
+    private static void sumsAndProducts() {
+        Sentence.ofTerms("SUM: PRODUCT { + or - PRODUCT }. PRODUCT: PART { * or / or % PART }.");
+        due("one part", 7, sum("7"));
+        due("products first", 14, sum("2+3*4"));
+        due("products first on the left", 10, sum("2*3+4"));
+        due("/ ahead of -", 8, sum("10-4/2"));
+        due("% ahead of +", 11, sum("10+7%3"));
+        bad(1, 7, "temper ;");
+        bad(1, 7, "temper +1;");
+        bad(1, 9, "temper 1-;");
+        bad(1, 9, "temper 1*;");
+        bad(1, 9, "temper 1+*2;");
+        bad(1, 9, "temper 1--2;");
+        Sentence.ofTerms("( SUM ) ; min ( SUM , SUM ) ; max ( SUM , SUM ) ;");
+        due("( )", 20, sum("(2+3)*4"));
+        due("min of the first", 3, sum("min(3,4)"));
+        due("min of the second", 3, sum("min(4,3)"));
+        due("min of like ones", 4, sum("min(4,4)"));
+        due("max of the first", 4, sum("max(4,3)"));
+        due("max of the second", 4, sum("max(3,4)"));
+        due("of sums below 0", 49, sum("50+max(0-2,0-1)"));
+        bad(1, 8, "temper ();");
+        bad(1, 12, "temper min(1);");
+        bad(1, 14, "temper max(1,2,3);");
+        bad(1, 11, "temper min(,1);");
+        bad(1, 10, "temper max;");
+        Sentence.ofTerms("All from the left on");
+        due("-", 5, sum("10-3-2"));
+        due("- and +", 9, sum("10-3+2"));
+        due("/", 2, sum("20/5/2"));
+        due("/ and *", 8, sum("20/5*2"));
+        due("* and /", 6, sum("5*5/4"));
+        due("%", 2, sum("17%5%3"));
+        due("% and *", 2, sum("17%5*6%10"));
+    }
+
+    private static void bothAndOr() {
+        Sentence.ofTerms("TEST: BOTH { or BOTH }. BOTH: FACT { and FACT }. FACT: not FACT; [ TEST ] ; all;");
+        due("all", 1, test("all"));
+        due("not all", 0, test("not all"));
+        due("not not all", 1, test("not not all"));
+        due("or of none", 0, test("1=2 or 1=3"));
+        due("or of the first", 1, test("1=1 or 1=3"));
+        due("or of the last of three", 1, test("1=2 or 1=3 or all"));
+        due("and of both", 1, test("all and 1=1"));
+        due("and without the last of three", 0, test("all and all and 1=2"));
+        due("and ahead of or", 1, test("all or all and not all"));
+        due("and ahead of or on the left", 1, test("not all and all or all"));
+        due("[ ]", 0, test("[all or all] and not all"));
+        due("not of its fact alone", 1, test("not 1=2 or 1=2"));
+        due("not of its fact alone, and", 0, test("not all and not all"));
+        due("not of [ ]", 0, test("not [1=2 or all]"));
+        bad(1, 7, "cracks ;");
+        bad(1, 8, "cracks [];");
+        bad(1, 13, "cracks all or;");
+        bad(1, 14, "cracks all and;");
+        bad(1, 10, "cracks not;");
+        bad(1, 7, "cracks or all;");
+        bad(1, 11, "cracks all not all;");
+        bad(1, 10, "cracks all=1;");
     }
 
     private static void choices() {

@@ -13,6 +13,7 @@ public final class BoundariesOfWeeksTest {
         differencesAndGrit();
         theYard();
         whichKilns();
+        comingOut();
         burning();
         asMuch();
         waiting();
@@ -305,6 +306,27 @@ public final class BoundariesOfWeeksTest {
         due("the first", 1, y.child(0, 4));
         due("the second", 1, y.child(1, 4));
         due("not the third", 0, y.child(2, 4));
+    }
+
+    private static void comingOut() {
+        Sentence.ofTerms("its CHILDREN come out with their tempers, CRACKED or not, STUCK or not;");
+        KilnBench x = Check.made("child a clay 0 grit 9;child b clay 99 grit 9;child c clay 98 grit 0;child d clay 98 grit 9;child e clay 0 grit 0;"
+            + "child f clay 0 grit 9;child g clay 5 grit 5;kiln k room 6;temper clay+place+week;cracks rings=99;sticks near<3 and grits>8;");
+        for (int c = 0; c < 6; c++) {
+            x.set(c, 0, 5 - c);
+        }
+        x.light(0, 0);
+        due("one firing", 1, x.weeks(1));
+        // From place 0 on: f 0, e 1, d 99 (of 100), c 99 (of 101), b 99 (of 103), a 5.
+        int[] temper = {5, 99, 99, 99, 1, 0, NONE};
+        int[] cracked = {0, 1, 1, 1, 0, 0, 0};
+        int[] brothers = {1, 14, 14, 14, 48, 48, 0};
+        for (int c = 0; c < 7; c++) {
+            due("fired " + c, c < 6 ? 1 : 0, x.child(c, 4));
+            due("temper " + c, temper[c], x.child(c, 5));
+            due("cracked " + c, cracked[c], x.child(c, 6));
+            due("brothers " + c, brothers[c], x.brothers(c));
+        }
     }
 
     private static void burning() {
