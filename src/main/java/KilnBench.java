@@ -745,14 +745,6 @@ public final class KilnBench {
             return isFormula(kind) && codeTo[kind - Token.TEMPER] > codeFrom[kind - Token.TEMPER];
         }
 
-        int firstOf(int kind) {
-            return isFormula(kind) ? codeFrom[kind - Token.TEMPER] : 0;
-        }
-
-        int lastOf(int kind) {
-            return isFormula(kind) ? codeTo[kind - Token.TEMPER] : 0;
-        }
-
         void beginFormula(int kind) {
             if (isFormula(kind)) {
                 codeFrom[kind - Token.TEMPER] = codeLength;
@@ -825,7 +817,17 @@ public final class KilnBench {
                 case Token.FUEL: town.stock = number(0, 999); break;
                 case Token.LOAD: town.load = number(0, 999); break;
                 case Token.WIND: town.wind = number(0, 100); break;
-                default: readFormula(kind); break;
+                default: break;
+            }
+            if (Town.isFormula(kind)) {
+                formula = kind;
+                town.beginFormula(kind);
+                if (kind == Token.TEMPER || kind == Token.BURNS) {
+                    readSum();
+                } else {
+                    readTest();
+                }
+                town.endFormula(kind);
             }
             endStatement();
         }
@@ -857,17 +859,6 @@ public final class KilnBench {
             expect(Token.ROOM);
             int room = number(1, PLACES_MOST);
             town.addKiln(name, room);
-        }
-
-        private void readFormula(int kind) {
-            formula = kind;
-            town.beginFormula(kind);
-            if (kind == Token.TEMPER || kind == Token.BURNS) {
-                readSum();
-            } else {
-                readTest();
-            }
-            town.endFormula(kind);
         }
 
         private void expect(int token) {
@@ -920,8 +911,12 @@ public final class KilnBench {
         }
 
         private void closeOne(int token) {
-            expect(token);
             open--;
+            if (reader.token == token) {
+                reader.next();
+            } else {
+                reader.fail(WRONG_BYTE, reader.at);
+            }
         }
 
         private void readSum() {
@@ -1100,9 +1095,12 @@ public final class KilnBench {
         }
 
         int valueOf(Town town, int kind) {
+            int formula = kind - Token.TEMPER;
+            if (formula < 0 || formula >= Town.FORMULAS) {
+                return 0;
+            }
             int top = 0;
-            int last = town.lastOf(kind);
-            for (int k = town.firstOf(kind); k < last; k++) {
+            for (int k = town.codeFrom[formula]; k < town.codeTo[formula]; k++) {
                 int op = town.code[k];
                 int base = top - operandsOf(op);
                 if (base < 0 || base + 2 >= STACK_MOST) {
@@ -1137,6 +1135,7 @@ public final class KilnBench {
             }
             int a = stack[base];
             int b = stack[base + 1];
+            int fact = op - Token.FIRST_WORD;
             switch (op) {
                 case '+': return a + b;
                 case '-': return a - b;
@@ -1153,13 +1152,8 @@ public final class KilnBench {
                 case Token.AND: return a & b;
                 case Token.NOT: return 1 - a;
                 case Token.ALL: return 1;
-                default: return factOf(op);
+                default: return fact >= 0 && fact < facts.length ? facts[fact] : 0;
             }
-        }
-
-        private int factOf(int word) {
-            int k = word - Token.FIRST_WORD;
-            return k >= 0 && k < facts.length ? facts[k] : 0;
         }
     }
 
@@ -1258,6 +1252,12 @@ public final class KilnBench {
         void takeOut(int child) {
             kilnOf[child] = NONE;
             placeOf[child] = NONE;
+        }
+
+        void comeOut(int child, int itsTemper, int isCracked) {
+            takeOut(child);
+            temper[child] = itsTemper;
+            cracked[child] = isCracked;
         }
 
         void stick(int one, int other) {
@@ -1404,30 +1404,17 @@ public final class KilnBench {
             for (int place = 0; place < town.rooms[kiln]; place++) {
                 int child = bench.whoIsIn(kiln, place);
                 if (child != NONE) {
-                    fireOne(bench, child, heat);
-                    cracks += bench.cracked[child];
-                    if (left != NONE) {
-                        stickIfDue(bench, left, child, heat);
+                    int temper = temperOf(child, heat, place, bench.week);
+                    int cracked = isCracked(child, heat, place, bench.week, temper) ? 1 : 0;
+                    cracks += cracked;
+                    bench.comeOut(child, temper, cracked);
+                    if (left != NONE && isStuck(left, child, bench.temper[left] - temper, heat, bench.week)) {
+                        bench.stick(left, child);
                     }
                 }
                 left = child;
             }
             return cracks;
-        }
-
-        private void fireOne(Bench bench, int child, int heat) {
-            int place = bench.placeOf[child];
-            int temper = temperOf(child, heat, place, bench.week);
-            bench.temper[child] = temper;
-            bench.cracked[child] = isCracked(child, heat, place, bench.week, temper) ? 1 : 0;
-            bench.takeOut(child);
-        }
-
-        private void stickIfDue(Bench bench, int one, int other, int heat) {
-            int difference = bench.temper[one] - bench.temper[other];
-            if (isStuck(one, other, difference, heat, bench.week)) {
-                bench.stick(one, other);
-            }
         }
     }
 
