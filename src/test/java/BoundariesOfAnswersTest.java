@@ -341,6 +341,14 @@ public final class BoundariesOfAnswersTest {
         Check.town(x, town(3, "cracks not heat=3 and not heat=8;"));
         x.set(0, 0, 5);
         due("the greater of two", 8, x.safe(0));
+        for (int turned = 0; turned < 2; turned++) {
+            Check.town(x, town(3, "temper clay*heat+20;sticks near>12;"));
+            x.set(1, 0, 2 + turned);
+            x.set(2, 0, 3 - turned);
+            due("until they differ too much", 12, x.safe(0));
+            x.set(0, 0, 4);
+            due("the one behind these too", turned == 0 ? 6 : 12, x.safe(0));
+        }
         Sentence.of(14, "SAFE for a KILN; NONE without one, with nobody in it, or when there is none such.");
         Check.town(x, town(3, "cracks clay=1;sticks all;"));
         due("nobody", NONE, x.safe(0));
@@ -676,6 +684,11 @@ public final class BoundariesOfAnswersTest {
         }
         Check.town(x, "kiln k room 1;");
         due("without children", NONE, Check.see(x, 0, 0, 0));
+        for (int children = 1; children < 8; children++) {
+            Check.town(x, town(children, ""));
+            due("the last of " + children, 1, Check.see(x, children - 1, 0, 0));
+            due("none behind the last of " + children, NONE, Check.see(x, children, 0, 0));
+        }
         Sentence.ofTerms("SEEN are rows of a CHILD, a PLACE (0 .. 5), a temper (0 .. 99): HEATS (0 .. 20) by which, in the WEEK of now, all ring so.");
         KilnBench y = Check.made(town(8, "temper if(place=5,99,heat/clay);"));
         Check.see(y, 7, 5, 99);
@@ -914,8 +927,8 @@ public final class BoundariesOfAnswersTest {
         due("refused", 4 + image.length, x.status(5));
         due("all stays", 3, x.has(3));
         due("that image itself", 1, Check.on(x, image));
-        KilnBench y = Check.made("child a clay 1 grit 1;kiln k room 1;");
-        due("of another town", 0, Check.on(y, image));
+        KilnBench other = Check.made("child a clay 1 grit 1;kiln k room 1;");
+        due("of another town", 0, Check.on(other, image));
         int last = image[image.length - 1];
         image[image.length - 1] = last + 251 < 256 ? last + 251 : last + 1;
         due("a last byte that is not below 251, or one more", 0, Check.on(x, image));
@@ -950,6 +963,9 @@ public final class BoundariesOfAnswersTest {
         onDue("two in two places", true, second);
         second[5] = 2;
         onDue("two in one place", false, second);
+        KilnBench y = Check.made(town(1, ""));
+        due("the last of three kilns", 1, Check.on(y, Check.sealed(0, 0, 0, 0, 0, 2, 0, 255, 0, 0, 255, 255, 255, 0)));
+        due("no fourth one", 0, Check.on(y, Check.sealed(0, 0, 0, 0, 0, 3, 0, 255, 0, 0, 255, 255, 255, 0)));
         Sentence.of(34, "FIRED: 255 for both, temper 99 at most, STUCK to FIRED ones that STICK to it, not to itself;");
         onDue("in a kiln", false, 5, 0);
         onDue("in a place", false, 6, 0);

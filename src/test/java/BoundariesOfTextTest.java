@@ -168,6 +168,10 @@ public final class BoundariesOfTextTest {
         bad(4, 5, "wind 101;");
         bad(4, 5, "wind 999;");
         Sentence.ofTerms("the last one of each counts (0 without)");
+        KilnBench still = Check.made("child a clay 1 grit 1;kiln k room 1;cracks heat=5;fuel 5;");
+        still.set(0, 0, 0);
+        still.light(0, 5);
+        due("not one row with a gust", 300, still.odds(0));
         KilnBench x = Check.made("fuel 5;load 7;wind 100;fuel 3;load 2;wind 0;");
         due("the last fuel", 3, x.has(3));
         due("the last load", 5, x.fuel(1));
@@ -243,6 +247,9 @@ public final class BoundariesOfTextTest {
         due("max of the second", 4, sum("max(3,4)"));
         due("of sums below 0", 49, sum("50+max(0-2,0-1)"));
         bad(1, 8, "temper ();");
+        bad(1, 9, "temper (1;");
+        bad(1, 14, "temper min(1,2;");
+        bad(1, 13, "temper min(1 2);");
         bad(1, 12, "temper min(1);");
         bad(1, 14, "temper max(1,2,3);");
         bad(1, 11, "temper min(,1);");
@@ -275,6 +282,8 @@ public final class BoundariesOfTextTest {
         due("not of [ ]", 0, test("not [1=2 or all]"));
         bad(1, 7, "cracks ;");
         bad(1, 8, "cracks [];");
+        bad(1, 11, "cracks [all;");
+        bad(1, 11, "cracks [all);");
         bad(1, 13, "cracks all or;");
         bad(1, 14, "cracks all and;");
         bad(1, 10, "cracks not;");
@@ -291,6 +300,8 @@ public final class BoundariesOfTextTest {
         bad(1, 11, "temper if(1,2,3);");
         bad(1, 17, "temper if(all,1,2,3);");
         bad(1, 15, "temper if(all,1);");
+        bad(1, 14, "temper if(all 1,2);");
+        bad(1, 16, "temper if(all,1 2);");
     }
 
     private static void comparisons() {
@@ -420,6 +431,10 @@ public final class BoundariesOfTextTest {
         bad(1, 7, "child a1 clay 1 grit 1;");
         bad(1, 10, "cracks 1<2or all;");
         bad(1, 13, "cracks all or1<2;");
+        bad(1, 10, "cracks not1<2;");
+        bad(1, 5, "child12345 clay 1 grit 1;");
+        bad(1, 7, "child a12345 clay 1 grit 1;");
+        bad(1, 14, "child a clay 1abcdefg 1;");
         // A blank inside parts what it stands in.
         bad(1, 0, "fu el 7;");
         bad(1, 7, "fuel 7 7;");
@@ -472,6 +487,9 @@ public final class BoundariesOfTextTest {
         bad(1, 5, "fuel heat;");
         bad(1, 8, "child a claya 1 grit 1;");
         bad(1, 8, "child a cla 1 grit 1;");
+        bad(1, 8, "child a 5 grit 1;");
+        bad(1, 15, "child a clay 1 5;");
+        bad(1, 7, "kiln k 1;");
         bad(1, 6, "child 1234 clay 1 grit 1;");
         bad(1, 7, "temper heats;");
         bad(1, 8, "temper 1>2;");
@@ -642,6 +660,16 @@ public final class BoundariesOfTextTest {
         due("one is there", 21, x.feed(0x20202020, 0x20202020, 0x20202020, 0x20202020, 0x20202020));
         due("only blanks", 0, x.town());
         due("none was refused", 0, x.status(0));
+        // What was behind the end is not read, whatever it was: "fuel 12345678;" and blanks.
+        x.feed(0x6675656c, 0x20313233, 0x34353637, 0x383b2020, 0x20202020);
+        x.end(9);
+        due("a number that goes on behind the end", NONE, x.town());
+        due("1234 can't be", 4, x.fault(0));
+        due("there", 5, x.fault(1));
+        x.feed(0x77696e64, 0x2039393b, 0x20202020, 0x20202020, 0x20202020);
+        x.end(3);
+        x.town();
+        due("a word that goes on behind the end", 0, x.fault(1));
         Sentence.of(3, "false, refused (0), if it has not so many, or n is below 0.");
         KilnBench y = new KilnBench();
         int[] wrong = {1, -1, 1600, 1601, Integer.MAX_VALUE, Integer.MIN_VALUE};
@@ -734,6 +762,7 @@ public final class BoundariesOfTextTest {
         Sentence.of(4, "Without one all is as at first, nothing is KEPT or SEEN, no ACT can be undone; the seed stays.");
         String text = "child a clay 5 grit 5;child b clay 6 grit 6;child c clay 7 grit 7;kiln k room 3;kiln l room 2;fuel 4;";
         KilnBench x = busy();
+        due("a best ahead of it", 2, x.best(1, 3));
         due("statements", 6, Check.town(x, text));
         int[] has = {3, 2, 0, 4, 0, 0, 0, 0, 0, 0, 0, 4711};
         for (int what = 0; what < has.length; what++) {
@@ -767,12 +796,36 @@ public final class BoundariesOfTextTest {
         y.weeks(1);
         due("no sticks of the town before", 1, y.brothers(0));
         due("refusals are counted on", 0, y.status(4));
+        // Nothing of towns before the last one, nor of texts with a fault, is left over.
+        KilnBench z = new KilnBench();
+        String much = "kiln k room 6;kiln l room 6;kiln m room 6;fuel 9;load 8;wind 100;temper 7;cracks all;sticks all;burns 7;";
+        Check.town(z, much);
+        Check.town(z, much + ";");
+        Check.town(z, "child a clay 1 grit 1;kiln k room 1;kiln l room 1;");
+        leftOverDue(z);
+        Check.town(z, much);
+        Check.town(z, "fuel 3;");
+        Check.town(z, "child a clay 1 grit 1;kiln k room 1;kiln l room 1;");
+        leftOverDue(z);
         Check.town(y, "");
         due("no children", 0, y.has(0));
         due("no kilns", 0, y.has(1));
         due("of none", NONE, y.child(0, 0));
         due("of no kiln", NONE, y.kiln(0, 0));
         due("no fuel", 0, y.has(3));
+    }
+
+    private static void leftOverDue(KilnBench x) {
+        due("no fuel, no load", 0, x.fuel(40));
+        due("no temper", 40, x.rings(0, 10, 0));
+        due("no third kiln", NONE, x.kiln(2, 0));
+        due("not one to set to", false, x.set(0, 2, 0));
+        due("not by an image", 0, Check.on(x, Check.sealed(0, 0, 0, 0, 0, 2, 0, 255, 0, 0, 255, 255, 0)));
+        x.set(0, 0, 0);
+        x.light(0, 10);
+        due("no burns", 10, x.kiln(0, 3));
+        due("no cracks", 0, x.odds(0));
+        due("no wind", 0, x.chance(20));
     }
 
     private static void fault() {

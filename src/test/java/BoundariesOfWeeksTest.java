@@ -210,6 +210,17 @@ public final class BoundariesOfWeeksTest {
         z.weeks(1);
         due("of another firing", 1, z.brothers(0));
         due("of another firing too", 2, z.brothers(1));
+        for (int week = 2; week <= 4; week++) {
+            for (int heat = 5; heat <= 6; heat++) {
+                KilnBench v = three("sticks week=3 and heat=5;");
+                v.set(0, 0, 0);
+                v.set(1, 0, 1);
+                v.weeks(week);
+                v.light(0, heat);
+                v.weeks(1);
+                due("in week " + week + " by " + heat, week == 3 && heat == 5 ? 3 : 1, v.brothers(0));
+            }
+        }
         KilnBench w = three("");
         w.set(0, 0, 4);
         w.set(1, 0, 5);
@@ -754,6 +765,16 @@ public final class BoundariesOfWeeksTest {
         y.weeks(1);
         due("kept again", 1, y.has(8));
         due("of that week", 0, y.kept(0, 0));
+        KilnBench v = oneLit(3, "kiln l room 3;");
+        v.set(0, 1, 0);
+        due("best behind the act", 0, v.best(1, 4));
+        due("none is in the other", NONE, v.best(0, 2));
+        v.undo();
+        due("best ahead of it", 0, v.best(0, 2));
+        v.take(0);
+        due("none is in it", NONE, v.best(0, 2));
+        v.undo();
+        due("best ahead of that", 0, v.best(0, 2));
         Sentence.of(29, "false, refused (4), when none can be.");
         KilnBench z = new KilnBench();
         due("at first", false, z.undo());
