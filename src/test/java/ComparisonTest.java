@@ -15,6 +15,9 @@ public final class ComparisonTest {
         for (int run = 0; run < runs && Check.wrongSoFar() == 0; run++) {
             random = new Random(firstSeed + run);
             oneRun(firstSeed + run);
+            if (run % 2 == 0) {
+                fullBench(firstSeed + run);
+            }
         }
         Check.finish("ComparisonTest");
     }
@@ -49,6 +52,36 @@ public final class ComparisonTest {
         }
         for (int what = -1; what <= 12; what++) {
             Check.due(story + " has " + what, y.has(what), x.has(what));
+        }
+    }
+
+    /** A kiln as full as can be, in which sticking hangs on who is where: its best setting, and what comes of it. */
+    private static void fullBench(int run) {
+        x = new KilnBench();
+        y = new PlainTown();
+        story = "bench " + run;
+        int room = 3 + upTo(3);
+        int children = 2 + upTo(room - 2);
+        StringBuilder text = new StringBuilder("kiln k room " + room + ";fuel 999;wind 70;temper " + likelyTemper() + ";");
+        text.append(pick(List.of("", "cracks place=" + upTo(5) + " and grit>" + upTo(9) + ";", "cracks heat>" + upTo(20) + ";")));
+        text.append("sticks ").append(pick(List.of("grits%" + (2 + upTo(3)) + "=" + upTo(2), "near%" + (2 + upTo(2)) + "=" + upTo(1) + " or grits<" + upTo(7),
+            "near>" + upTo(20), "near<" + upTo(20), "near+grits<heat", "grits>" + upTo(12) + " and near<" + upTo(30)))).append(";");
+        for (int c = 0; c < children; c++) {
+            text.append("child ").append((char) ('a' + c)).append(" clay ").append(upTo(99)).append(" grit ").append(upTo(9)).append(";");
+        }
+        town(text.toString());
+        for (int c = 0; c < children; c++) {
+            due("set " + c, y.set(c, 0, c), x.set(c, 0, c));
+        }
+        due("safe", y.safe(0), x.safe(0));
+        for (int what = 0; what < 2 + room; what++) {
+            due("best " + what, y.best(0, what), x.best(0, what));
+        }
+        due("light", y.light(0, upTo(20)), x.light(0, y.kiln(0, 2)));
+        due("chance", y.chance(1), x.chance(1));
+        for (int c = 0; c < children; c++) {
+            due("brothers " + c, y.brothers(c), x.brothers(c));
+            due("temper " + c, y.child(c, 5), x.child(c, 5));
         }
     }
 
